@@ -430,6 +430,11 @@ public final class PromisesTest {
         is("vowels", costOf("a", "u"), 1);
         is("unlike kinds", costOf("a", "b"), 3);
         is("y is none", costOf("y", "b"), 1);
+        for (char letter = 'a'; letter <= 'z'; letter++) {
+            boolean vowel = "aeiou".indexOf(letter) >= 0;
+            is("kind of " + letter, costOf("" + letter, "a"), letter == 'a' ? 0 : vowel ? 1 : 3);
+            leads("V>x,C>y", "" + letter, vowel ? "x" : "y");
+        }
         is("nothing", costOf("pa", "p"), 2);
         is("gone over", costOf("ab", "ba"), 4);
         is("all", costOf("a", "bbbbbbbb"), 17);
@@ -460,6 +465,7 @@ public final class PromisesTest {
         wayIs("a", "bbb", 102, 2, 2);
         wayIs("aa", "a", 101, 100);
         wayIs("bbab", "ab", 200, 200, 101, 202);
+        wayIs("ppppaaaa", "aaaapppp", 1600, 1600, 1600, 1600, 101, 101, 101, 101, 16, 16, 16, 16);
         SmallTongues x = told("pa ta", "pi");
         is("one tongue", x.way(0, 0, 0, 1), 101);
         is("no word", x.way(1, 0, 1, -1), NONE);
@@ -575,6 +581,8 @@ public final class PromisesTest {
         // Others cost 3 and 1: no more than 4.
         SmallTongues y = told("pa pat pe", "pa kuk pi");
         is("just not", y.borrowed(0, 0, 1), 0);
+        // Three others cost 3, 2 and 1: no more than 6.
+        is("just not of three", told("pa pat pe ta", "pa kuk bi da").borrowed(0, 0, 1), 0);
         is("one tongue", y.borrowed(0, 0, 0), BAD);
         is("one tongue without a word", y.borrowed(5, 0, 0), NONE);
         is("no word of its own", x.borrowed(1, 2, 0), NONE);
@@ -643,6 +651,9 @@ public final class PromisesTest {
         is("no words in common", x.best(2, 3, 16, -1), 0);
         is("no exceptions in common", x.best(2, 3, 16, -2), 0);
         is("the first row all the same", x.best(2, 3, 17, 0), 0);
+        SmallTongues z = told("pa pa pa", "p pap pa");
+        Due.law(z, "k>g");
+        is("of another size", z.best(0, 1, 1, -2), 3);
         p28OrderOfFour();
     }
 
