@@ -1281,9 +1281,9 @@ public final class SmallTongues {
         Branches() {
         }
 
-        /** How many branches there are when the leaf of that rank (from 0 on) is set. */
+        /** How many branches there are when the leaf of that rank (from 0 on) is set; numbers are divided by it. */
         static int whenSet(int rank) {
-            return 2 * rank - 3;
+            return Math.max(1, 2 * rank - 3);
         }
 
         void hang(int meaning, int tongues, int leafSet) {

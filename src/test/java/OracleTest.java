@@ -5,6 +5,11 @@ public final class OracleTest {
     private static final Due DUE = new Due("OracleTest");
     private static final int RUNS = 160;
     private static final int CALLS = 512;
+    private static final int MOST_OF_A_STEP = 12;
+    private static final int MOST_OF_A_LOOK = 206;
+    private static final int PARTS = 10;
+    // Each run is run again so often, to be looked at as it was at some time.
+    private static final int LOOKS = 3;
     private static final String SOUNDS = "pbtaei";
     // How many TREES so many TONGUES have; 1 where there are none, so that a number can be drawn.
     private static final int[] TREES = {1, 1, 1, 1, 3, 15, 105};
@@ -17,6 +22,7 @@ public final class OracleTest {
     // How wild the numbers of this run are, and how many LAWS, SPLITS and so on it sees, differs from run to run.
     private final int wildness;
     private final int sounds;
+    private int asked = 0;
 
     private OracleTest(int seed) {
         random = new Random(seed);
@@ -31,7 +37,7 @@ public final class OracleTest {
     }
 
     private int tongue() {
-        return num(random.nextInt(20) == 0 ? 7 : Math.max(1, mine.count(0)));
+        return num(random.nextInt(20) == 0 ? 7 : Math.max(1, theirs.count(0)));
     }
 
     private int meaning() {
@@ -39,14 +45,15 @@ public final class OracleTest {
     }
 
     private int anyLaw() {
-        return num(random.nextInt(20) == 0 ? 13 : Math.max(1, mine.count(1)));
+        return num(random.nextInt(20) == 0 ? 13 : Math.max(1, theirs.count(1)));
     }
 
     private int anyEvent() {
-        return num(Math.max(1, mine.count(2) + 1));
+        return num(Math.max(1, theirs.count(2) + 1));
     }
 
     private void due(String call, long got, long want) {
+        asked++;
         DUE.is(run + call, got, want);
     }
 
@@ -141,12 +148,12 @@ public final class OracleTest {
 
     private void askOrdersAndTrees() {
         int a = tongue(), b = tongue(), i = num(7) - 2, what = num(4), l = anyLaw(), k = anyLaw();
-        int all = (1 << mine.count(0)) - 1;
+        int all = (1 << theirs.count(0)) - 1;
         int bits = random.nextInt(8) == 0 ? num(128) : random.nextInt(3) == 0 ? all : random.nextInt(all + 1);
         switch (random.nextInt(8)) {
             case 0: case 1: case 2:
                 int laws = random.nextInt(10) == 0 ? num(1 << 13) : 0;
-                for (int n = random.nextInt(4); n >= 0 && laws == 0; n--) laws |= mine.count(1) == 0 ? 0 : 1 << random.nextInt(mine.count(1));
+                for (int n = random.nextInt(4); n >= 0 && laws == 0; n--) laws |= theirs.count(1) == 0 ? 0 : 1 << random.nextInt(theirs.count(1));
                 due("best", mine.best(a, b, laws, i), theirs.best(a, b, laws, i)); break;
             case 3: case 4: due("feeds", mine.feeds(a, l, k), theirs.feeds(a, l, k)); break;
             case 5: case 6: int tree = num(random.nextInt(8) == 0 ? 110 : TREES[Integer.bitCount(bits & 63)]); due("steps", mine.steps(bits, tree), theirs.steps(bits, tree)); break;
@@ -163,7 +170,7 @@ public final class OracleTest {
             case 2: what = num(3); due("truth", mine.truth(t, m, what), theirs.truth(t, m, what)); break;
             case 3: what = num(3); due("from", mine.from(t, what), theirs.from(t, what)); break;
             case 4: what = num(6); due("event", mine.event(e, what), theirs.event(e, what)); break;
-            case 5: int c = num(Math.max(1, mine.count(4) + 1)); due("right", mine.right(c), theirs.right(c)); break;
+            case 5: int c = num(Math.max(1, theirs.count(4) + 1)); due("right", mine.right(c), theirs.right(c)); break;
             case 6: int s = num(12); what = num(3); due("sure", mine.sure(s, what), theirs.sure(s, what)); break;
             case 7: int act = num(4); due("act", mine.act(e, act, x), theirs.act(e, act, x)); break;
             case 8: due("trace", mine.trace(i), theirs.trace(i)); break;
@@ -172,23 +179,30 @@ public final class OracleTest {
         }
     }
 
-    /** Looks at the whole world, so that a call that changed what it should not is seen. */
-    private void lookAround() {
-        for (int t = 0; t < 6; t++) {
+    /** A part of all that can be seen, so that a call that changed what it should not is seen. */
+    private void lookAround(int part) {
+        if (part < 6) {
             for (int m = 0; m < 10; m++) {
-                for (int i = -1; i < 8; i++) due("word in " + t, mine.word(t, m, i), theirs.word(t, m, i));
-                due("truth 0", mine.truth(t, m, 0), theirs.truth(t, m, 0));
-                due("truth 1", mine.truth(t, m, 1), theirs.truth(t, m, 1));
-                due("set", mine.set(m, t), theirs.set(m, t));
+                for (int i = -1; i < 8; i++) due("word in " + part, mine.word(part, m, i), theirs.word(part, m, i));
+                due("set", mine.set(m, part), theirs.set(m, part));
             }
-            due("from 0", mine.from(t, 0), theirs.from(t, 0));
-            due("from 1", mine.from(t, 1), theirs.from(t, 1));
+        } else if (part == 6) {
+            for (int t = 0; t < 6; t++) {
+                for (int m = 0; m < 10; m++) {
+                    for (int what = 0; what < 2; what++) due("truth", mine.truth(t, m, what), theirs.truth(t, m, what));
+                }
+                for (int what = 0; what < 2; what++) due("from", mine.from(t, what), theirs.from(t, what));
+            }
+        } else if (part < 9) {
+            int first = part == 7 ? 0 : 40;
+            for (int i = first; i <= first + 40; i++) {
+                for (int what = 0; what < 5; what++) due("event " + what, mine.event(i, what), theirs.event(i, what));
+            }
+        } else {
+            for (int i = -1; i < 61; i++) due("right", mine.right(i), theirs.right(i));
+            for (int i = -1; i < 21; i++) due("trace", mine.trace(i), theirs.trace(i));
+            for (int what = -1; what < 9; what++) due("count", mine.count(what), theirs.count(what));
         }
-        for (int i = 0; i <= 80; i++) {
-            for (int what = 0; what < 5; what++) due("event " + what, mine.event(i, what), theirs.event(i, what));
-            due("right", mine.right(i), theirs.right(i));
-        }
-        for (int what = -1; what < 9; what++) due("count", mine.count(what), theirs.count(what));
     }
 
     /** Some TONGUES with WORDS, and some LAWS, so that what is asked later is mostly there. */
@@ -222,24 +236,39 @@ public final class OracleTest {
         due("coin", mine.coin(t, m), theirs.coin(t, m));
     }
 
-    private void go() {
+    /** A run of so many calls; a last step may need some more, for which there is room. */
+    private void go(int calls) {
         settle();
-        for (int call = 0; call < CALLS; call++) {
+        while (asked < calls) {
             switch (random.nextInt(8)) {
                 case 0: case 1: case 2: changeWorld(); break;
                 case 3: case 4: askLists(); break;
                 case 5: askOrdersAndTrees(); break;
                 default: askTheRest(); break;
             }
-            if (call % 128 == 100) lookAround();
         }
-        due("open", mine.open(), theirs.open());
-        lookAround();
+    }
+
+    /** The same run as far as it leaves calls enough for a look; half of them with THE TRUTH opened ahead of it. */
+    private void goAndLook(int part, int calls) {
+        go(calls);
+        if (calls % 2 == 0) due("open", mine.open(), theirs.open());
+        lookAround(part);
+        DUE.so(run + "an object is used for 512 calls at most", asked <= CALLS);
     }
 
     public static void main(String[] args) {
         int runs = args.length > 0 ? Integer.parseInt(args[0]) : RUNS;
-        for (int seed = 0; seed < runs; seed++) new OracleTest(seed).go();
+        for (int seed = 0; seed < runs; seed++) {
+            OracleTest whole = new OracleTest(seed);
+            whole.go(CALLS - MOST_OF_A_STEP);
+            DUE.so("an object is used for 512 calls at most", whole.asked <= CALLS);
+            for (int look = 0; look < LOOKS; look++) {
+                int part = (seed * LOOKS + look) % PARTS;
+                int calls = new Random(seed * LOOKS + look).nextInt(CALLS - MOST_OF_A_STEP - MOST_OF_A_LOOK);
+                new OracleTest(seed).goAndLook(part, calls);
+            }
+        }
         DUE.end();
     }
 }
