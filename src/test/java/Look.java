@@ -37,8 +37,9 @@ final class Look {
     }
 
     private static List<Look> all() {
-        List<Look> looks = List.of(counts(), kinds(0), kinds(40), words(0), words(3), holesAndLimit(), roots(),
-            events(0), events(40), tape(), laws(), lists());
+        List<Look> looks = List.of(counts(), trace(), kinds(0), kinds(40), words(0), words(3), holesAndLimit(),
+            origins(), roots(new Look("the truth as it stands, open or shut")),
+            roots(new Look("the opened truth").ask("open")), events(0), events(40), tape(), laws(), lists());
         for (Look look : looks) {
             if (look.size() > MOST) throw new IllegalStateException(look.name + " asks too much");
         }
@@ -46,8 +47,13 @@ final class Look {
     }
 
     private static Look counts() {
-        Look look = new Look("counts and the trace");
+        Look look = new Look("counts");
         for (int what = 0; what < 8; what++) look.ask("count", what);
+        return look;
+    }
+
+    private static Look trace() {
+        Look look = new Look("the trace");
         for (int i = 0; i < 21; i++) look.ask("trace", i);
         return look;
     }
@@ -80,8 +86,14 @@ final class Look {
         return look.ask("right", 0);
     }
 
-    private static Look roots() {
-        Look look = new Look("the opened truth of words, tongues, claims").ask("open");
+    /** Apart from the rest of THE TRUTH, and with no call ahead of it that could hide a change. */
+    private static Look origins() {
+        Look look = new Look("from where tongues are");
+        for (int t = 0; t < 6; t++) look.ask("from", t, 0).ask("from", t, 1);
+        return look;
+    }
+
+    private static Look roots(Look look) {
         for (int t = 0; t < 6; t++) {
             for (int m = 0; m < 10; m++) look.ask("truth", t, m, 0).ask("truth", t, m, 1);
             look.ask("from", t, 0).ask("from", t, 1);

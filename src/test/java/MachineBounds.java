@@ -187,11 +187,13 @@ final class MachineBounds {
         bounds.sentence("OLD FORM: what 0 whose WORD, 1 its COSTS with the others together, 2 UNSURE; -5: no LIST has one. NONE: meaning, what.");
         // Of du, tu and du those two cost 1 together.
         int[] want = {1, 1, 2};
+        int[] alone = {2, 0, 1};
         for (int what = 0; what < 3; what++) {
             bounds.keeps(RICH, want[what], "old", 2, what);
             bounds.keeps(Story.NEW, -5, "old", 0, what);
             bounds.keeps(Story.NEW, -5, "old", 9, what);
-            bounds.keeps(Story.told("pa").then("hole", 0, 0, true), -5, "old", 0, what);
+            bounds.keeps(RICH.then("hole", 1, 6, true), alone[what], "old", 6, what);
+            bounds.keeps(RICH.then("hole", 1, 6, true).then("hole", 2, 6, true), -5, "old", 6, what);
             for (int m : new int[] {MIN, -1, 10, MAX}) {
                 bounds.keeps(RICH, NONE, "old", m, what);
                 bounds.keeps(Story.NEW, NONE, "old", m, what);
@@ -239,6 +241,9 @@ final class MachineBounds {
         Story two = Story.told("pa").law("a>e").law("e>i");
         bounds.keeps(two, 1, "feeds", 0, 0, 1);
         bounds.keeps(two, 1, "feeds", 0, 1, 0);
+        Story four = new World(World.NO_BYTES).story.law("e>i").fed("ab");
+        bounds.keeps(four, 1, "feeds", 0, 2, 3);
+        bounds.keeps(four, 0, "feeds", 3, 2, 3);
         bounds.keeps(FULL_LAWS, 0, "feeds", 0, 0, 11);
         bounds.keeps(FULL_LAWS, 0, "feeds", 3, 11, 0);
         for (int law = 0; law < 12; law++) bounds.keeps(FULL_LAWS, BAD, "feeds", 0, law, law);

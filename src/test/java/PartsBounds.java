@@ -411,19 +411,7 @@ final class PartsBounds {
 
     private void orders() {
         bounds.sentence("==== 4 ORDERS: of told LAWS (1 .. 4 unlike ones) each order, all of them one behind the other, leads WORDS of one TONGUE's LIST to others: BEST is that by which most MEANINGS of both LISTS come out as the other TONGUE's WORD; of several the first (as a row of LAWS); EXCEPTIONS: those (of both LISTS) that don't, as bits.");
-        // a becomes f only by a>b, b>c, c>d, d>f in this order; the LAWS bear other numbers in each story.
-        String[] law = {"a>b", "b>c", "c>d", "d>f"};
-        int[][] at = {{0, 1, 2, 3}, {3, 2, 1, 0}, {1, 3, 0, 2}, {2, 0, 3, 1}};
-        for (int[] place : at) {
-            String[] text = new String[4];
-            for (int i = 0; i < 4; i++) text[place[i]] = law[i];
-            Story story = Story.told("a p", "f k");
-            for (String each : text) story = story.law(each);
-            bounds.keeps(story, 1, "best", 0, 1, 15, -1);
-            bounds.keeps(story, 2, "best", 0, 1, 15, -2);
-            for (int i = 0; i < 4; i++) bounds.keeps(story, place[i], "best", 0, 1, 15, i);
-            bounds.keeps(story, NONE, "best", 0, 1, 15, 4);
-        }
+        for (int size = 1; size <= 4; size++) onlyOneOrder(size, new int[size], 0);
         Story twelve = Story.told("pa pe pi po pu pap pep pip pop pup", "pa pe pi po pu pap pep pip pop pup", "-");
         for (int l = 0; l < 12; l++) twelve = twelve.law("z>y");
         int[][] told = {{0}, {11}, {0, 11}, {3, 7, 9}, {8, 9, 10, 11}, {0, 1, 2, 3}};
@@ -447,6 +435,28 @@ final class PartsBounds {
         Story unlike = Story.told("pa pe pi po pu pap pep pip pop pup", "ka ke ki ko ku kap kep kip kop kup").law("z>y");
         bounds.keeps(unlike, 0, "best", 0, 1, 1, -1);
         bounds.keeps(unlike, 1023, "best", 0, 1, 1, -2);
+    }
+
+    /** Of so many LAWS, numbered in every way, one order alone makes of a what is due: the one that goes on a letter a time. */
+    private void onlyOneOrder(int size, int[] places, int set) {
+        if (set == size) {
+            String[] laws = new String[size];
+            for (int i = 0; i < size; i++) laws[places[i]] = (char) ('a' + i) + ">" + (char) ('a' + i + 1);
+            Story story = Story.told("a p", (char) ('a' + size) + " k");
+            for (String law : laws) story = story.law(law);
+            int all = (1 << size) - 1;
+            bounds.keeps(story, 1, "best", 0, 1, all, -1);
+            bounds.keeps(story, 2, "best", 0, 1, all, -2);
+            for (int i = 0; i < size; i++) bounds.keeps(story, places[i], "best", 0, 1, all, i);
+            bounds.keeps(story, NONE, "best", 0, 1, all, size);
+            return;
+        }
+        for (int place = 0; place < size; place++) {
+            boolean free = true;
+            for (int i = 0; i < set; i++) free &= places[i] != place;
+            places[set] = place;
+            if (free) onlyOneOrder(size, places, set + 1);
+        }
     }
 
     private void feed() {

@@ -2,6 +2,11 @@
 final class TermsBounds {
     private static final int NONE = Bounds.NONE, BAD = Bounds.BAD, STATE = Bounds.STATE, FULL = Bounds.FULL;
     private static final int MIN = Bounds.MIN, MAX = Bounds.MAX;
+    private static final String TONGUES_AND_MEANINGS = "5, as they come; MEANINGS 0 .. 9.";
+    private static final String A_WORD = "Of a MEANING a TONGUE has a WORD (1 to 8 sounds, letters a to z; a e i o u are VOWELS, others are not) or none.";
+    private static final String THE_TRUTH = "THE TRUTH (shut at first) tells of each WORD its ROOT (a number; WORDS of one ROOT are of one word once), and whether it is a LOAN; of each TONGUE from which one it split off (none: it came by itself), and when; and the EVENTS (80 at most, as they come; when there are 80, no more can).";
+    private static final String A_LAW = "A LAW is read from THE TAPE (bytes, 80 at most): CHANGES, 6 at most, with , between: a sign, &gt;, a letter or 0, and perhaps / LEFT _ RIGHT.";
+    private static final String SIGNS = "Sign: a letter, V (any VOWEL) or C (any that is none). LEFT, RIGHT: none, a letter, V, C, or # (the edge of the WORD). No blanks.";
     private static final int ROOT = -100;
     private static final String LETTERS = "abcdefghijklmnopqrstuvwxyz";
     private static final String TEN = "pata peta pita pota puta pate pete pite pote pute";
@@ -37,7 +42,7 @@ final class TermsBounds {
     }
 
     private void tonguesAsTheyCome() {
-        bounds.sentence("5, as they come; MEANINGS 0 .. 9.");
+        bounds.sentence(TONGUES_AND_MEANINGS);
         Story story = Story.NEW;
         for (int t = 0; t < 6; t++) story = bounds.takes(story, t, "tongue");
         bounds.keeps(story, FULL, "tongue");
@@ -50,7 +55,7 @@ final class TermsBounds {
     }
 
     private void tonguesAndMeanings() {
-        bounds.sentence("5, as they come; MEANINGS 0 .. 9.");
+        bounds.sentence(TONGUES_AND_MEANINGS);
         for (Story story : new Story[] {THREE, SIX}) {
             int last = story == SIX ? 5 : 2;
             numbersOf(story.fed("ab"), last, 10, "coin", new int[] {0}, new int[] {1}, 0, 0);
@@ -102,7 +107,7 @@ final class TermsBounds {
     }
 
     private void soundsOfWords() {
-        bounds.sentence("Of a MEANING a TONGUE has a WORD (1 to 8 sounds, letters a to z; a e i o u are VOWELS, others are not) or none.");
+        bounds.sentence(A_WORD);
         Story one = Story.told("kip");
         for (int size = 1; size <= 8; size++) {
             String text = LETTERS.substring(26 - size);
@@ -126,7 +131,7 @@ final class TermsBounds {
     }
 
     private void vowels() {
-        bounds.sentence("Of a MEANING a TONGUE has a WORD (1 to 8 sounds, letters a to z; a e i o u are VOWELS, others are not) or none.");
+        bounds.sentence(A_WORD);
         for (char letter : LETTERS.toCharArray()) {
             boolean vowel = letter == 'a' || letter == 'e' || letter == 'i' || letter == 'o' || letter == 'u';
             Story story = Story.told("" + letter, "a", "b").law("V>x,C>y");
@@ -137,7 +142,7 @@ final class TermsBounds {
     }
 
     private void wordOrNone() {
-        bounds.sentence("Of a MEANING a TONGUE has a WORD (1 to 8 sounds, letters a to z; a e i o u are VOWELS, others are not) or none.");
+        bounds.sentence(A_WORD);
         Story shut = Story.told("pa te", "ko -", "- ti").then("forget", 0, 0);
         Story open = shut.then("open");
         for (int m = 0; m < 10; m++) bounds.keeps(Story.NEW.then("tongue"), NONE, "word", 0, m, -1);
@@ -183,7 +188,7 @@ final class TermsBounds {
     }
 
     private void truthShutAtFirst() {
-        bounds.sentence("THE TRUTH (shut at first) tells of each WORD its ROOT (a number; WORDS of one ROOT are of one word once), and whether it is a LOAN; of each TONGUE from which one it split off (none: it came by itself), and when; and the EVENTS (80 at most, as they come; when there are 80, no more can).");
+        bounds.sentence(THE_TRUTH);
         bounds.keeps(Story.NEW, STATE, "sure", 0, 1);
         Story shut = Story.told("pa te", "ki").then("years", 7).then("split", 0).then("loan", 1, 0, 1)
             .then("claim", 0, 0, 2, true, 4);
@@ -209,7 +214,7 @@ final class TermsBounds {
 
     /** The last one that there can be may be of any KIND; then none can, but what is no EVENT goes on. */
     private void eightyEvents() {
-        bounds.sentence("THE TRUTH (shut at first) tells of each WORD its ROOT (a number; WORDS of one ROOT are of one word once), and whether it is a LOAN; of each TONGUE from which one it split off (none: it came by itself), and when; and the EVENTS (80 at most, as they come; when there are 80, no more can).");
+        bounds.sentence(THE_TRUTH);
         Story most = Story.told("pata peta", "tuk", "-").law("z>y").times(76, "sound", 2, 0).fed("ab");
         bounds.keeps(most, 79, "count", 2);
         Call[] last = {new Call("coin", 2, 5), new Call("sound", 0, 0), new Call("shorten", 0, 0),
@@ -241,7 +246,7 @@ final class TermsBounds {
     }
 
     private void tape() {
-        bounds.sentence("A LAW is read from THE TAPE (bytes, 80 at most): CHANGES, 6 at most, with , between: a sign, &gt;, a letter or 0, and perhaps / LEFT _ RIGHT.");
+        bounds.sentence(A_LAW);
         bounds.keeps(Story.NEW, 0, "count", 6);
         for (int size = 72; size <= 80; size++) {
             Story fed = Story.NEW.then("tongue").fed("a".repeat(size));
@@ -258,7 +263,7 @@ final class TermsBounds {
     }
 
     private void sixChanges() {
-        bounds.sentence("A LAW is read from THE TAPE (bytes, 80 at most): CHANGES, 6 at most, with , between: a sign, &gt;, a letter or 0, and perhaps / LEFT _ RIGHT.");
+        bounds.sentence(A_LAW);
         String[] changes = {"a>b", "b>c/_", "c>d/V_", "d>e/_C", "e>f/#_#", "f>0"};
         String law = "";
         for (int n = 1; n <= 6; n++) {
@@ -280,7 +285,7 @@ final class TermsBounds {
 
     /** What may follow what, tried with every byte that there is. */
     private void everyByteOfLaws() {
-        bounds.sentence("Sign: a letter, V (any VOWEL) or C (any that is none). LEFT, RIGHT: none, a letter, V, C, or # (the edge of the WORD). No blanks.");
+        bounds.sentence(SIGNS);
         String sign = LETTERS + "VC";
         String[][] goOn = {{"", sign, ""}, {"a", ">", ""}, {"V", ">", ""}, {"C", ">", ""},
             {"a>", LETTERS + "0", LETTERS + "0"}, {"a>b", "/,", ""}, {"a>0", "/,", ""},
@@ -302,7 +307,7 @@ final class TermsBounds {
     }
 
     private void noBlanks() {
-        bounds.sentence("Sign: a letter, V (any VOWEL) or C (any that is none). LEFT, RIGHT: none, a letter, V, C, or # (the edge of the WORD). No blanks.");
+        bounds.sentence(SIGNS);
         String law = "p>b/#_V,C>0/_";
         bounds.takes(Story.NEW.fed(law), 0, "law");
         for (int place = 0; place <= law.length(); place++) {

@@ -3,7 +3,7 @@
  * of it, told here and not asked of the class.
  */
 final class World {
-    static final int OPEN = 1, NO_EVENTS = 2, NO_TONGUES = 4, NO_LAWS = 8, NO_CLAIMS = 16;
+    static final int OPEN = 1, NO_EVENTS = 2, NO_TONGUES = 4, NO_LAWS = 8, NO_CLAIMS = 16, NO_BYTES = 32;
 
     private static final String[][] WORDS = {
         {"pater", "mater", "tu", "okto", "ped", "a", "", "bak", "kos", "dent"},
@@ -19,7 +19,7 @@ final class World {
     final int laws;
     final int events;
     final int claims;
-    final int bytes = 2;
+    final int bytes;
     final Story story;
 
     /** With more or less room in it, as the bits say. */
@@ -33,6 +33,7 @@ final class World {
         laws = noLaws ? 12 : 3;
         events = noEvents ? 80 : 23;
         claims = noClaims ? 60 : 2;
+        bytes = (bits & NO_BYTES) != 0 ? 0 : 2;
         Story told = Story.told("pater mater tu okto ped a - bak kos dent", "fader mader du akt fot a bab - hus tand")
             .then("years", 30).then("split", 1).then("tongue").then("hole", 1, 8, true).then("hole", 2, 0, true)
             .law("p>f/#_,t>d/V_").law("V>0/_#").law("a>e").then("loan", 7, 0, 2).then("forget", 2, 9)
@@ -42,7 +43,8 @@ final class World {
         if (noTongues) told = told.times(2, "tongue");
         if (noLaws) for (int law = 3; law < 12; law++) told = told.law("z>y");
         if (noClaims) told = told.times(58, "claim", 2, 0, 1, true, 10);
-        told = told.then("act", 22, 1, 5).fed("ab");
+        told = told.then("act", 22, 1, 5);
+        if (bytes > 0) told = told.fed("ab");
         story = open ? told.then("open") : told;
     }
 

@@ -2,7 +2,10 @@
 final class WorldBounds {
     private static final int NONE = Bounds.NONE, BAD = Bounds.BAD, STATE = Bounds.STATE, FULL = Bounds.FULL;
     private static final int MIN = Bounds.MIN, MAX = Bounds.MAX;
+    private static final String COIN = "COIN: THE TAPE, which is empty then, is a TONGUE's WORD of a MEANING (in place of its own): its ROOT (from 0 on); -10 less the place of the first byte that is no letter (8, if there are more; 0, if there are none). NONE; FULL: EVENTS (THE TAPE stays with both).";
     private static final Story RICH = new World(0).story;
+    /** The same without the two bytes of THE TAPE. */
+    private static final Story EMPTY_TAPE = new World(World.NO_BYTES).story;
     private static final Story RICH_OPEN = new World(World.OPEN).story;
 
     private final Bounds bounds;
@@ -91,7 +94,7 @@ final class WorldBounds {
         bounds.takes(one.then("feed", -1L, 1), -10, "coin", 0, 0);
         bounds.takes(one.then("feed", 0x9e9f9f9f61626364L, 4).then("feed", 0x61e1L, 2), -15, "coin", 0, 0);
         for (int n : new int[] {MIN, -1, 0, 9, MAX}) bounds.keeps(RICH, BAD, "feed", 97L, n);
-        Story full = RICH.then("coin", 3, 3).fed("a".repeat(80));
+        Story full = EMPTY_TAPE.fed("a".repeat(80));
         for (int n = 1; n <= 8; n++) bounds.keeps(full, FULL, "feed", 97L, n);
         for (int n : new int[] {MIN, 0, 9, MAX}) bounds.keeps(full, BAD, "feed", 97L, n);
         Story almost = Story.NEW.fed("a".repeat(79));
@@ -110,23 +113,25 @@ final class WorldBounds {
         Story faulty = bounds.takes(RICH, -11, "law");
         bounds.keeps(faulty, 0, "count", 6);
         bounds.keeps(faulty, 3, "count", 1);
-        bounds.alike(faulty, RICH.then("coin", -1, 0).fed(">").then("law"));
-        bounds.alike(faulty, bounds.takes(faulty.fed("a>b,a>b,a>b,a>b,a>b,a>b,a>b"), -33, "law"));
-        Story taken = bounds.takes(faulty.fed("a>b"), 3, "law");
+        bounds.alike(EMPTY_TAPE, faulty);
+        bounds.alike(EMPTY_TAPE, bounds.takes(EMPTY_TAPE, -10, "law"));
+        bounds.alike(EMPTY_TAPE, bounds.takes(EMPTY_TAPE.fed("a>b,a>b,a>b,a>b,a>b,a>b,a>b"), -33, "law"));
+        Story taken = bounds.takes(EMPTY_TAPE.fed("a>b"), 3, "law");
         bounds.keeps(taken, 0, "count", 6);
         bounds.keeps(taken, 4, "count", 1);
         // A faulty one leaves the LAWS that there are, and the number, for the next one.
         bounds.alike(taken, faulty.fed("a>b/a_b;").then("law").fed("a>b").then("law"));
         Story full = new World(World.NO_LAWS).story;
         bounds.keeps(full, FULL, "law");
-        Story good = full.then("coin", 3, 3).fed("e>i");
+        Story none = new World(World.NO_LAWS | World.NO_BYTES).story;
+        Story good = none.fed("e>i");
         bounds.keeps(good, FULL, "law");
         bounds.keeps(good, 3, "count", 6);
-        bounds.keeps(full.then("coin", 3, 3), FULL, "law");
+        bounds.keeps(none, FULL, "law");
     }
 
     private void coin() {
-        bounds.sentence("COIN: THE TAPE, which is empty then, is a TONGUE's WORD of a MEANING (in place of its own): its ROOT (from 0 on); -10 less the place of the first byte that is no letter (8, if there are more; 0, if there are none). NONE; FULL: EVENTS (THE TAPE stays with both).");
+        bounds.sentence(COIN);
         Story first = bounds.takes(Story.NEW.then("tongue").fed("a"), 0, "coin", 0, 0);
         bounds.keeps(first, 0, "count", 6);
         bounds.keeps(first, 1, "count", 3);
@@ -145,18 +150,17 @@ final class WorldBounds {
     }
 
     private void coinRefused() {
-        bounds.sentence("COIN: THE TAPE, which is empty then, is a TONGUE's WORD of a MEANING (in place of its own): its ROOT (from 0 on); -10 less the place of the first byte that is no letter (8, if there are more; 0, if there are none). NONE; FULL: EVENTS (THE TAPE stays with both).");
-        Story empty = RICH.then("law");
+        bounds.sentence(COIN);
         String[] faulty = {"", "1", "a1", "abcdefg1", "abcdefghi", "abcdefgh1", "1bcdefghi", "abcdefg1i", "A", "`", "{"};
         int[] place = {0, 0, 1, 7, 8, 8, 0, 7, 0, 0, 0};
         for (int i = 0; i < faulty.length; i++) {
-            bounds.alike(empty, bounds.takes(empty.fed(faulty[i]), -10 - place[i], "coin", 0, 0));
+            bounds.alike(EMPTY_TAPE, bounds.takes(EMPTY_TAPE.fed(faulty[i]), -10 - place[i], "coin", 0, 0));
         }
         for (String text : new String[] {"", "ab", "a1", "abcdefghi"}) {
-            Story fed = empty.fed(text);
+            Story fed = EMPTY_TAPE.fed(text);
             for (int t : new int[] {MIN, -1, 4, MAX}) bounds.keeps(fed, NONE, "coin", t, 0);
             for (int m : new int[] {MIN, -1, 10, MAX}) bounds.keeps(fed, NONE, "coin", 0, m);
-            Story full = new World(World.NO_EVENTS).story.then("law").fed(text);
+            Story full = new World(World.NO_EVENTS | World.NO_BYTES).story.fed(text);
             bounds.keeps(full, FULL, "coin", 0, 0);
             bounds.keeps(full, NONE, "coin", 4, 0);
             bounds.keeps(full, text.length(), "count", 6);
